@@ -185,11 +185,22 @@ final class Ledgers {
         return script(parameter, parameter, storage, row(), value);
     }
 
+    /** Code that updates the map or BIG that is first in the storage, for the parameter as key; 14 instructions. */
+    static int[] updating(int[] pushOption) {
+        return code(steps(31, 37), step(word(33, code(steps(38, 31, 38, 32, 37)))), step(pushOption),
+            steps(32, 53, 36, 35, 36));
+    }
+
     // Calls.
 
     static PactLedger put(PactLedger ledger, int[] bytes) {
-        for (int octet : bytes) {
-            ledger.put(octet, 1);
+        for (int at = 0; at < bytes.length; at += 8) {
+            int n = Math.min(8, bytes.length - at);
+            long word = 0;
+            for (int i = 0; i < n; i++) {
+                word = word << 8 | bytes[at + i];
+            }
+            ledger.put(word, n);
         }
         return ledger;
     }

@@ -8,6 +8,9 @@ public final class PactLedger {
     private static final int MOST_NODE_DEPTH = 9;
     private static final int MOST_IN_ROW = 40;
     private static final int MOST_IN_TEXT = 8;
+    private static final int LEAST_CHARACTER = 32;
+    private static final int MOST_CHARACTER = 126;
+    private static final int SCRIPT_NODES = 5;
     private static final int MOST_CONTRACTS = 4;
     private static final int MOST_BITS = 120;
     private static final int MOST_COST = 150;
@@ -154,7 +157,7 @@ public final class PactLedger {
             buffer.clear();
             throw new IllegalStateException();
         }
-        Node script = buffer.read(5);
+        Node script = buffer.read(SCRIPT_NODES);
         Checker checker = new Checker(buffer);
         Type parameter = checker.type(script.part(0), PLAIN);
         Type result = checker.type(script.part(1), PLAIN);
@@ -186,7 +189,7 @@ public final class PactLedger {
             buffer.clear();
             throw new IllegalArgumentException();
         }
-        Value parameter = buffer.readValue(contract.parameter);
+        Value parameter = buffer.fitting(buffer.read(1).part(0), contract.parameter);
         Machine machine = new Machine(output, bits, cost);
         machine.push(Value.word(V_PAIR, parameter, contract.stored));
         machine.block(contract.code);
@@ -217,7 +220,7 @@ public final class PactLedger {
             buffer.clear();
             throw new IllegalArgumentException();
         }
-        Value key = buffer.readValue(contract.keyType());
+        Value key = buffer.fitting(buffer.read(1).part(0), contract.keyType());
         output.clear();
         output.write(contract.big().got(key));
         return output.length;
@@ -270,9 +273,9 @@ public final class PactLedger {
     /** The bytes that were put, and the reading of nodes from them. */
     private static final class Buffer {
         private final byte[] bytes = new byte[MOST_BYTES];
+        private final Node[] noParts = new Node[0];
         private int length = 0;
         private int wrong = NONE;
-        private final Node[] noParts = new Node[0];
         // These tell of the reading: how many bytes there are, the next one's place, how many nodes there were.
         private int end = 0;
         private int place = 0;
@@ -296,13 +299,13 @@ public final class PactLedger {
             wrong = NONE;
             place = 0;
             nodes = 0;
-            Node all = new Node(0, ROW, 0, parts(n, 1), Value.row());
+            Node all = new Node(0, ROW, 0, parts(n, 1), Value.emptyRow());
             require(place == end, place);
             return all;
         }
 
-        Value readValue(Type type) {
-            Node node = read(1).part(0);
+        /** The value that a node of the buffer is, if it is one of the type. */
+        Value fitting(Node node, Type type) {
             int misfit = type.misfit(node);
             require(misfit == NONE, misfit);
             return node.value;
@@ -359,7 +362,7 @@ public final class PactLedger {
             long text = 0;
             for (int i = 0; i < n; i++) {
                 int octet = next();
-                require(octet >= 32 && octet <= 126, place - 1);
+                require(octet >= LEAST_CHARACTER && octet <= MOST_CHARACTER, place - 1);
                 text = text | (long) octet << (8 * (MOST_IN_TEXT - 1 - i));
             }
             return Value.text(text, n);
@@ -403,11 +406,11 @@ public final class PactLedger {
         }
 
         static Value rowValue(Node[] parts) {
-            Value row = Value.row();
-            for (int i = parts.length - 1; i >= 0; i--) {
-                row = Value.cons(parts[i].value, row);
+            Value[] items = new Value[parts.length];
+            for (int i = 0; i < parts.length; i++) {
+                items[i] = parts[i].value;
             }
-            return row;
+            return Value.row(items);
         }
 
         static Value wordValue(int code, Node[] parts) {
@@ -590,42 +593,46 @@ public final class PactLedger {
     private static final class Value {
         // NUMBER, TEXT, ROW, or the code of a word.
         private final int kind;
-        // Characters of a text, elements of a row.
+        // How many characters a text has, or elements a row.
         private final int size;
         // A text's characters from the highest byte on, 0 behind them: as numbers they are in the order of texts.
         private final long text;
         private final Num number;
-        // The parts of a word; of a row its first element and the row of the other ones.
+        // The parts of a word.
         private final Value first;
         private final Value second;
+        // The elements of a row; a map's are entries. An array takes less room than a chain when a map is updated.
+        private final Value[] items;
 
-        private Value(int kind, int size, long text, Num number, Value first, Value second) {
+        private Value(int kind, int size, long text, Num number, Value first, Value second, Value[] items) {
             this.kind = kind;
             this.size = size;
             this.text = text;
             this.number = number;
             this.first = first;
             this.second = second;
+            this.items = items;
         }
 
         static Value number(Num number) {
-            return new Value(NUMBER, 0, 0, number, null, null);
+            return new Value(NUMBER, 0, 0, number, null, null, null);
         }
 
         static Value text(long text, int size) {
-            return new Value(TEXT, size, text, null, null, null);
+            return new Value(TEXT, size, text, null, null, null, null);
         }
 
-        static Value row() {
-            return new Value(ROW, 0, 0, null, null, null);
+        /** A row of these; nobody changes the array any more. */
+        static Value row(Value[] items) {
+            return new Value(ROW, items.length, 0, null, null, null, items);
         }
 
-        static Value cons(Value head, Value rest) {
-            return new Value(ROW, rest.size + 1, 0, null, head, rest);
+        static Value emptyRow() {
+            return row(new Value[0]);
         }
 
         static Value word(int code, Value first, Value second) {
-            return new Value(code, 0, 0, null, first, second);
+            return new Value(code, 0, 0, null, first, second, null);
         }
 
         static Value truth(boolean truth) {
@@ -647,6 +654,10 @@ public final class PactLedger {
 
         Value second() {
             return second == null ? this : second;
+        }
+
+        Value item(int i) {
+            return items == null || i < 0 || i >= items.length || items[i] == null ? this : items[i];
         }
 
         Num number() {
@@ -693,77 +704,70 @@ public final class PactLedger {
                 return most + 1;
             }
             int n = 1;
-            Value rest = this;
             for (int i = 0; i < size && n <= most; i++) {
-                n = n + rest.first().nodes(most - n);
-                rest = rest.second();
+                n = n + item(i).nodes(most - n);
             }
             return n;
         }
 
+        /** The row with one more in front. */
+        Value with(Value head) {
+            Value[] all = new Value[size + 1];
+            all[0] = head;
+            for (int i = 0; i < size; i++) {
+                all[i + 1] = item(i);
+            }
+            return row(all);
+        }
+
+        /** The row without its first element. */
+        Value rest() {
+            Value[] all = new Value[Math.max(0, size - 1)];
+            for (int i = 0; i < all.length; i++) {
+                all[i] = item(i + 1);
+            }
+            return row(all);
+        }
+
         /** How many of a map's keys are below this one. */
         private int keysBelow(Value key) {
-            Value rest = this;
             int n = 0;
-            while (n < size && order(rest.first().first(), key) < 0) {
-                rest = rest.second();
+            while (n < size && order(item(n).first(), key) < 0) {
                 n = n + 1;
             }
             return n;
         }
 
-        private Value without(int n) {
-            Value rest = this;
-            for (int i = 0; i < n && i < size; i++) {
-                rest = rest.second();
-            }
-            return rest;
-        }
-
-        private boolean beginsWith(Value key) {
-            return size > 0 && order(first().first(), key) == 0;
+        private boolean hasKeyAt(int i, Value key) {
+            return i < size && order(item(i).first(), key) == 0;
         }
 
         boolean has(Value key) {
-            return without(keysBelow(key)).beginsWith(key);
+            return hasKeyAt(keysBelow(key), key);
         }
 
         /** The option of what a map has for the key. */
         Value got(Value key) {
-            Value rest = without(keysBelow(key));
-            return rest.beginsWith(key) ? some(rest.first().second()) : none();
+            int at = keysBelow(key);
+            return hasKeyAt(at, key) ? some(item(at).second()) : none();
         }
 
         /** The map with what the option holds for the key, or without the key. */
         Value updated(Value key, Value option) {
-            int n = keysBelow(key);
-            Value rest = without(n);
-            boolean had = rest.beginsWith(key);
-            if (option.kind == V_NONE && !had) {
+            int at = keysBelow(key);
+            int old = hasKeyAt(at, key) ? 1 : 0;
+            int added = option.kind == V_SOME ? 1 : 0;
+            if (old == 0 && added == 0) {
                 return this;
             }
-            if (had) {
-                rest = rest.second();
+            Value[] all = new Value[Math.max(0, size - old + added)];
+            for (int i = 0; i < all.length; i++) {
+                all[i] = i < at ? item(i) : item(i + old - added);
             }
-            if (option.kind == V_SOME) {
-                rest = cons(word(V_ENTRY, key, option.first()), rest);
+            if (added == 1 && at < all.length) {
+                all[at] = word(V_ENTRY, key, option.first());
             }
-            return rest.behind(this, n);
-        }
-
-        /** This row with the first n elements of another one ahead of it. */
-        private Value behind(Value other, int n) {
-            Value[] ahead = new Value[n];
-            Value from = other;
-            for (int i = 0; i < n; i++) {
-                ahead[i] = from.first();
-                from = from.second();
-            }
-            Value row = this;
-            for (int i = n - 1; i >= 0; i--) {
-                row = cons(ahead[i], row);
-            }
-            return row;
+            return row(all);
         }
     }
 
@@ -1269,7 +1273,7 @@ public final class PactLedger {
     /** The doing of a call's code, on a stack of values. */
     private static final class Machine {
         private final Value[] stack = new Value[MOST_ON_STACK];
-        private final Value nothing = Value.row();
+        private final Value nothing = Value.emptyRow();
         private final Output output;
         private final int bits;
         private final int bound;
@@ -1362,8 +1366,8 @@ public final class PactLedger {
                     break;
             }
             if (step.code == IFCONS && first) {
-                push(top.second());
-                push(top.first());
+                push(top.rest());
+                push(top.item(0));
             } else if (step.code == IFLEFT || step.code == IFNONE && !first) {
                 push(top.first());
             }
@@ -1371,33 +1375,25 @@ public final class PactLedger {
         }
 
         private void iterate(Step step) {
-            Value rest = pop();
-            int n = rest.size;
-            for (int i = 0; i < n; i++) {
+            Value row = pop();
+            for (int i = 0; i < row.size; i++) {
                 pay(1);
-                Value element = rest.first();
-                boolean entry = element.kind == V_ENTRY;
-                push(entry ? Value.word(V_PAIR, element.first(), element.second()) : element);
+                Value item = row.item(i);
+                push(item.kind == V_ENTRY ? Value.word(V_PAIR, item.first(), item.second()) : item);
                 block(step.first);
-                rest = rest.second();
             }
         }
 
         private void mapList(Step step) {
-            Value rest = pop();
-            Value[] made = new Value[rest.size];
+            Value row = pop();
+            Value[] made = new Value[Math.max(0, row.size)];
             for (int i = 0; i < made.length; i++) {
                 pay(1);
-                push(rest.first());
+                push(row.item(i));
                 block(step.first);
                 made[i] = pop();
-                rest = rest.second();
             }
-            Value row = Value.row();
-            for (int i = made.length - 1; i >= 0; i--) {
-                row = Value.cons(made[i], row);
-            }
-            push(row);
+            push(Value.row(made));
         }
 
         private void loop(Step step) {
@@ -1447,7 +1443,7 @@ public final class PactLedger {
                     break;
                 case NIL:
                 case EMPTY:
-                    push(Value.row());
+                    push(Value.emptyRow());
                     break;
                 default:
                     join(step.code, pop(), pop());
@@ -1463,7 +1459,7 @@ public final class PactLedger {
                 push(Value.word(V_PAIR, x, y));
             } else {
                 // CONS.
-                push(Value.cons(x, y));
+                push(y.with(x));
             }
         }
 
@@ -1626,10 +1622,8 @@ public final class PactLedger {
         private void row(Value value) {
             append(ROW);
             append(value.size);
-            Value rest = value;
             for (int i = 0; i < value.size; i++) {
-                write(rest.first());
-                rest = rest.second();
+                write(value.item(i));
             }
         }
 

@@ -22,6 +22,7 @@ public final class CallTest {
         comparisons();
         texts();
         loops();
+        belowStays();
         failing();
         wrongArguments();
         costs();
@@ -313,6 +314,40 @@ public final class CallTest {
         Ledgers.due("LOOP without end", Ledgers.call(ledger, 0, Ledgers.num(1), 1, 150), Ledgers.ILLEGAL_STATE);
     }
 
+    /** That a branch or a loop on the parameter leaves a NAT, and what is below it is as it was. */
+    private static void below(int[] type, int[] value, int want, int cost, int[]... code) {
+        int[][] before = {Ledgers.push(T, Ledgers.text("below")), SWAP};
+        PactLedger ledger = Ledgers.deployed(
+            Ledgers.pure(type, Ledgers.pairType(N, T), before, code, Ledgers.steps(36)));
+        String what = "call with " + Ledgers.told(value) + " of " + Ledgers.told(Ledgers.row(code));
+        Ledgers.due(what, Ledgers.call(ledger, 0, value, 120, 150), Integer.toString(cost + 7));
+        Ledgers.due(what, Ledgers.output(ledger), Ledgers.pair(Ledgers.num(want), Ledgers.text("below")));
+    }
+
+    private static void belowStays() {
+        int[] one = Ledgers.push(N, Ledgers.num(1));
+        int[] two = Ledgers.push(N, Ledgers.num(2));
+        int[] ones = Ledgers.row(one);
+        int[] twos = Ledgers.row(two);
+        int[] keep = Ledgers.row();
+        below(B, Ledgers.TRUE, 1, 2, Ledgers.word(58, ones, twos));
+        below(B, Ledgers.FALSE, 2, 2, Ledgers.word(58, ones, twos));
+        below(Ledgers.optionType(N), Ledgers.NO_VALUE, 1, 2, Ledgers.word(41, ones, keep));
+        below(Ledgers.optionType(N), Ledgers.some(Ledgers.num(7)), 7, 1, Ledgers.word(41, ones, keep));
+        int[] either = Ledgers.word(44, keep, Ledgers.row(DROP, two));
+        below(Ledgers.orType(N, B), Ledgers.left(Ledgers.num(7)), 7, 1, either);
+        below(Ledgers.orType(N, B), Ledgers.right(Ledgers.TRUE), 2, 3, either);
+        int[] list = Ledgers.listType(N);
+        int[] head = Ledgers.word(47, Ledgers.row(SWAP, DROP), ones);
+        below(list, numbers(5, 6), 5, 3, head);
+        below(list, numbers(), 1, 2, head);
+        below(list, numbers(5, 6), 1, 6, Ledgers.word(49, Ledgers.row(DROP)), one);
+        below(list, numbers(5, 6), 2, 4, Ledgers.word(50, keep), Ledgers.word(48));
+        below(B, Ledgers.TRUE, 1, 4, Ledgers.word(59, Ledgers.row(Ledgers.push(B, Ledgers.FALSE))), one);
+        below(B, Ledgers.FALSE, 1, 2, Ledgers.word(59, Ledgers.row(Ledgers.push(B, Ledgers.FALSE))), one);
+        below(N, Ledgers.num(3), 6, 3, Ledgers.word(33, keep), DUP, Ledgers.word(60));
+    }
+
     private static void failing() {
         int[][] types = {U, B, I, N, T, Ledgers.pairType(N, Ledgers.pairType(T, B))};
         int[][] values = {
@@ -495,6 +530,12 @@ public final class CallTest {
         int[] most = Ledgers.row(Ledgers.many(24, Ledgers.THE_UNIT), Ledgers.many(22, Ledgers.THE_UNIT));
         int[] lists = Ledgers.listType(list);
         int[] pairs = Ledgers.pairType(lists, lists);
+        int[] stored = Ledgers.optionType(pairs);
+        result("a storage of 100 nodes", Ledgers.script(lists, U, stored,
+            Ledgers.code(Ledgers.steps(37, 31, 36, 39, 35, 36)), Ledgers.NO_VALUE), most, true);
+        int[] more = Ledgers.optionType(stored);
+        result("a storage of 101 nodes", Ledgers.script(lists, U, more,
+            Ledgers.code(Ledgers.steps(37, 31, 36, 39, 39, 35, 36)), Ledgers.NO_VALUE), most, false);
         result("100 nodes", Ledgers.pure(lists, Ledgers.optionType(pairs), Ledgers.steps(31, 36, 39)), most, true);
         result("101 nodes", Ledgers.pure(lists, Ledgers.optionType(Ledgers.optionType(pairs)),
             Ledgers.steps(31, 36, 39, 39)), most, false);

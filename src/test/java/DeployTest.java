@@ -429,6 +429,8 @@ public final class DeployTest {
         Ledgers.ill("code that is a number", Ledgers.script(N, N, N, ONE, ONE), 6);
         illCode("DIP of nothing", 2, DROP, Ledgers.word(33, Ledgers.row()));
         illCode("RIGHT of nothing", 2, DROP, Ledgers.word(43, N));
+        keptCode("LEFT keeps what is below", PUSH_TRUE, PUSH_NAT, Ledgers.word(42, N), DROP, Ledgers.word(57), DROP);
+        keptCode("RIGHT keeps what is below", PUSH_TRUE, PUSH_NAT, Ledgers.word(43, N), DROP, Ledgers.word(57), DROP);
         illCode("DIP holds the top", 2 + 2, Ledgers.word(33, Ledgers.row(DROP)));
         keptCode("DIP leaves any", PUSH_NAT, Ledgers.word(33, Ledgers.row(PUSH_TRUE, PUSH_TRUE)), DROP, DROP, DROP);
     }

@@ -1,9 +1,6 @@
 /** Promise 9: about. */
-public final class AboutTest {
+public final class AboutTest extends Ledgers {
     private static final int[] N = Ledgers.NAT;
-    private static final int[] ONE = Ledgers.num(1);
-    private static final int[] DROP = Ledgers.word(30);
-    private static final int[] DUP = Ledgers.word(31);
 
     public static void main(String[] args) {
         others();
@@ -16,10 +13,6 @@ public final class AboutTest {
 
     private static void about(String what, int[] script, int asked, int want) {
         Ledgers.due(what + ", about(0, " + asked + ")", Ledgers.deployed(script).about(0, asked), want);
-    }
-
-    private static int[] natScript(int[]... code) {
-        return Ledgers.script(N, N, N, Ledgers.row(code), ONE);
     }
 
     private static void others() {

@@ -1,15 +1,12 @@
 import java.math.BigInteger;
 
 /** Promise 5: call. */
-public final class CallTest {
+public final class CallTest extends Ledgers {
     private static final int[] N = Ledgers.NAT;
     private static final int[] I = Ledgers.INT;
     private static final int[] B = Ledgers.BOOL;
     private static final int[] T = Ledgers.TEXT;
     private static final int[] U = Ledgers.UNIT;
-    private static final int[] DROP = Ledgers.word(30);
-    private static final int[] DUP = Ledgers.word(31);
-    private static final int[] SWAP = Ledgers.word(32);
 
     public static void main(String[] args) {
         stackInstructions();
@@ -31,15 +28,6 @@ public final class CallTest {
         sizesOfResults();
         leavesAllAsItWas();
         Ledgers.end();
-    }
-
-    /** That code gives this result for a parameter, at this cost; four more of it stand around the code. */
-    private static void gives(int[] parameter, int[] result, int[] value, int[] want, int cost, int[]... code) {
-        PactLedger ledger = Ledgers.deployed(Ledgers.pure(parameter, result, code));
-        String what = "call with " + Ledgers.told(value) + " of " + Ledgers.told(Ledgers.row(code));
-        Ledgers.due(what, Ledgers.call(ledger, 0, value, 120, 150), Integer.toString(cost + 4));
-        Ledgers.due("output of " + what, Ledgers.output(ledger), want);
-        Ledgers.due("storage after " + what, Ledgers.storage(ledger, 0), Ledgers.THE_UNIT);
     }
 
     private static void stackInstructions() {
@@ -75,14 +63,6 @@ public final class CallTest {
         gives(or, N, Ledgers.right(Ledgers.text("abc")), Ledgers.num(3), 2, size);
     }
 
-    private static int[] numbers(int... numbers) {
-        int[][] all = new int[numbers.length][];
-        for (int i = 0; i < numbers.length; i++) {
-            all[i] = Ledgers.num(numbers[i]);
-        }
-        return Ledgers.row(all);
-    }
-
     private static void lists() {
         int[] list = Ledgers.listType(N);
         gives(N, list, Ledgers.num(3), numbers(3), 3, Ledgers.word(45, N), SWAP, Ledgers.word(46));
@@ -108,14 +88,6 @@ public final class CallTest {
             4 + 3 * 3, Ledgers.push(N, Ledgers.num(0)), SWAP, Ledgers.word(50, plusTotal), Ledgers.word(36));
         gives(list, Ledgers.listType(B), numbers(5, 6), Ledgers.row(Ledgers.TRUE, Ledgers.TRUE), 1 + 2 * 3,
             Ledgers.word(50, Ledgers.row(DROP, Ledgers.push(B, Ledgers.TRUE))));
-    }
-
-    private static int[] map(int... keysAndValues) {
-        int[][] all = new int[keysAndValues.length / 2][];
-        for (int i = 0; i < all.length; i++) {
-            all[i] = Ledgers.entry(Ledgers.num(keysAndValues[2 * i]), Ledgers.num(keysAndValues[2 * i + 1]));
-        }
-        return Ledgers.row(all);
     }
 
     private static void maps() {

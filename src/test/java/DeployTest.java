@@ -1,14 +1,9 @@
 /** Promise 3: deploy, with the places that wrong() tells of what is ILL. */
-public final class DeployTest {
+public final class DeployTest extends Ledgers {
     private static final int[] N = Ledgers.NAT;
-    private static final int[] ONE = Ledgers.num(1);
     private static final int[] PUSH_NAT = Ledgers.push(N, ONE);
     private static final int[] PUSH_INT = Ledgers.push(Ledgers.INT, ONE);
     private static final int[] PUSH_TRUE = Ledgers.push(Ledgers.BOOL, Ledgers.TRUE);
-    private static final int[] FAIL = Ledgers.word(76);
-    private static final int[] DROP = Ledgers.word(30);
-    // Where the first instruction stands behind NAT, NAT, NAT and the row's two bytes.
-    private static final int FIRST = 8;
 
     public static void main(String[] args) {
         numbersAndOutput();
@@ -28,23 +23,6 @@ public final class DeployTest {
         ends();
         inOrder();
         Ledgers.end();
-    }
-
-    private static int[] natScript(int[]... code) {
-        return Ledgers.script(N, N, N, Ledgers.row(code), ONE);
-    }
-
-    /** That code on a stack with the pair of two NATs alone is ILL so far behind its first instruction. */
-    private static void illCode(String what, int place, int[]... code) {
-        Ledgers.ill(what, natScript(code), FIRST + place);
-    }
-
-    private static void keptCode(String what, int[]... code) {
-        Ledgers.kept(what, natScript(code));
-    }
-
-    private static int length(int[]... nodes) {
-        return Ledgers.join(nodes).length;
     }
 
     private static void numbersAndOutput() {
@@ -153,23 +131,6 @@ public final class DeployTest {
         int[] bad = Ledgers.pairType(deep(7), Ledgers.word(99));
         Ledgers.ill("a type 9 deep with a wrong part", Ledgers.echo(Ledgers.listType(bad), N, ONE), 4 + deep(7).length);
         Ledgers.ill("depth of the second part", Ledgers.echo(Ledgers.pairType(N, deep(7)), N, ONE), 0);
-    }
-
-    private static void illValue(String what, int[] type, int[] value, int place) {
-        int[] script = Ledgers.echo(N, type, value);
-        Ledgers.ill(what + " as storage", script, script.length - value.length + place);
-        illCode(what + " of PUSH", 2 + type.length + place, Ledgers.push(type, value));
-        PactLedger ledger = Ledgers.deployed(Ledgers.echo(type, N, ONE));
-        Ledgers.due(what + " as parameter", Ledgers.call(ledger, 0, value, 1, 1), Ledgers.ILLEGAL_ARGUMENT);
-        Ledgers.due(what + ", wrong()", ledger.wrong(), place);
-    }
-
-    private static void rightValue(int[] type, int[] value) {
-        Ledgers.kept(Ledgers.told(value) + " as storage", Ledgers.echo(N, type, value));
-        keptCode(Ledgers.told(value) + " of PUSH", Ledgers.push(type, value), DROP);
-        PactLedger ledger = Ledgers.deployed(Ledgers.echo(type, N, ONE));
-        Ledgers.due(Ledgers.told(value) + " as parameter", Ledgers.call(ledger, 0, value, 1, 1), "0");
-        Ledgers.due(Ledgers.told(value) + " as result", Ledgers.output(ledger), value);
     }
 
     private static void values() {

@@ -1,8 +1,8 @@
 import java.math.BigInteger;
 import java.util.Arrays;
 
-/** What the tests share: nodes as bytes, scripts, and the comparing of answers. */
-final class Ledgers {
+/** What the tests share: nodes as bytes, scripts, and the comparing of answers; tests may extend it for short names. */
+class Ledgers {
     interface Call {
         int answer();
     }
@@ -23,10 +23,24 @@ final class Ledgers {
     static final int[] TRUE = word(22);
     static final int[] NO_VALUE = word(24);
 
-    private static int wrong = 0;
+    static final int[] DROP = word(30);
+    static final int[] DUP = word(31);
+    static final int[] SWAP = word(32);
+    static final int[] PUSH_UNIT = word(35);
+    static final int[] PAIR = word(36);
+    static final int[] CAR = word(37);
+    static final int[] CDR = word(38);
+    static final int[] SOME = word(39);
+    static final int[] CONS = word(46);
+    static final int[] SIZE = word(48);
+    static final int[] FAIL = word(76);
 
-    private Ledgers() {
-    }
+    static final int[] NOTHING = {};
+    static final int[] ONE = num(1);
+    // Where the first instruction of natScript() stands, behind NAT, NAT, NAT and the row's two bytes.
+    static final int FIRST = 8;
+
+    private static int wrong = 0;
 
     // Nodes.
 
@@ -137,6 +151,48 @@ final class Ledgers {
         return word(34, type, value);
     }
 
+    static int[] nil(int[] type) {
+        return word(45, type);
+    }
+
+    static int[] none(int[] type) {
+        return word(40, type);
+    }
+
+    static int[] dip(int[]... code) {
+        return word(33, row(code));
+    }
+
+    static int[] iter(int[]... code) {
+        return word(49, row(code));
+    }
+
+    static int[] mapEach(int[]... code) {
+        return word(50, row(code));
+    }
+
+    static int[] loop(int[]... code) {
+        return word(59, row(code));
+    }
+
+    /** A list of numbers. */
+    static int[] numbers(int... numbers) {
+        int[][] all = new int[numbers.length][];
+        for (int i = 0; i < numbers.length; i++) {
+            all[i] = num(numbers[i]);
+        }
+        return row(all);
+    }
+
+    /** A map of numbers. */
+    static int[] map(int... keysAndValues) {
+        int[][] all = new int[keysAndValues.length / 2][];
+        for (int i = 0; i < all.length; i++) {
+            all[i] = entry(num(keysAndValues[2 * i]), num(keysAndValues[2 * i + 1]));
+        }
+        return row(all);
+    }
+
     /** Instructions without parts. */
     static int[][] steps(int... codes) {
         int[][] all = new int[codes.length][];
@@ -164,13 +220,30 @@ final class Ledgers {
 
     /** A row of so many equal nodes. */
     static int[] many(int n, int[] node) {
-        int[][] all = new int[n][];
-        Arrays.fill(all, node);
-        return row(all);
+        return row(times(n, node));
     }
 
     static int[] script(int[] parameter, int[] result, int[] storage, int[] code, int[] value) {
         return join(parameter, result, storage, code, value);
+    }
+
+    /** A script on NATs alone, so that its code begins with the pair of two of them. */
+    static int[] natScript(int[]... code) {
+        return script(NAT, NAT, NAT, row(code), ONE);
+    }
+
+    /** So many equal nodes one behind the other. */
+    static int[][] times(int n, int[] node) {
+        int[][] all = new int[n][];
+        Arrays.fill(all, node);
+        return all;
+    }
+
+    /** These nodes and those behind them. */
+    static int[][] then(int[][] nodes, int[]... more) {
+        int[][] all = Arrays.copyOf(nodes, nodes.length + more.length);
+        System.arraycopy(more, 0, all, nodes.length, more.length);
+        return all;
     }
 
     /** A script whose code works on the parameter alone and leaves the result; the storage is a unit. */
@@ -277,6 +350,55 @@ final class Ledgers {
         PactLedger ledger = put(new PactLedger(), script);
         due(what + ": deploy()", answer(ledger::deploy), "0");
         due(what + ": wrong()", ledger.wrong(), PactLedger.NONE);
+    }
+
+    /** That code on a stack with the pair of two NATs alone is ILL so far behind its first instruction. */
+    static void illCode(String what, int place, int[]... code) {
+        ill(what, natScript(code), FIRST + place);
+    }
+
+    static void keptCode(String what, int[]... code) {
+        kept(what, natScript(code));
+    }
+
+    /** That a node can be read: in a script that is right up to it, it is no more than ILL. */
+    static void readable(String what, int[] node) {
+        ill(what, echo(UNIT, UNIT, node), FIRST);
+    }
+
+    /** That a node can't be read, so far behind its first byte. */
+    static void unreadable(String what, int[] node, int place) {
+        refused(what, echo(UNIT, UNIT, node), ILLEGAL_ARGUMENT, FIRST + place);
+    }
+
+    /** That this is a value of the type, as storage, of PUSH, and as a parameter that comes back as the result. */
+    static void rightValue(int[] type, int[] value) {
+        String what = told(value) + " of type " + told(type);
+        kept(what + " as storage", echo(NAT, type, value));
+        keptCode(what + " of PUSH", push(type, value), DROP);
+        PactLedger ledger = deployed(echo(type, NAT, ONE));
+        due(what + " as parameter", call(ledger, 0, value, 1, 1), "0");
+        due(what + " as parameter, wrong()", ledger.wrong(), PactLedger.NONE);
+        due(what + " as result", output(ledger), value);
+    }
+
+    /** That this is no value of the type, and so far behind its first byte. */
+    static void illValue(String what, int[] type, int[] value, int place) {
+        int[] script = echo(NAT, type, value);
+        ill(what + " as storage", script, script.length - value.length + place);
+        illCode(what + " of PUSH", 2 + type.length + place, push(type, value));
+        PactLedger ledger = deployed(echo(type, NAT, ONE));
+        due(what + " as parameter", call(ledger, 0, value, 1, 1), ILLEGAL_ARGUMENT);
+        due(what + " as parameter, wrong()", ledger.wrong(), place);
+    }
+
+    /** That code gives this result for a parameter, at this cost; four more of it stand around the code. */
+    static void gives(int[] parameter, int[] result, int[] value, int[] want, int cost, int[]... code) {
+        PactLedger ledger = deployed(pure(parameter, result, code));
+        String what = "call with " + told(value) + " of " + told(row(code));
+        due(what, call(ledger, 0, value, 120, 150), Integer.toString(cost + 4));
+        due("output of " + what, output(ledger), want);
+        due("storage after " + what, storage(ledger, 0), THE_UNIT);
     }
 
     static void end() {

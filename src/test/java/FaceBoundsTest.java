@@ -26,6 +26,7 @@ public final class FaceBoundsTest extends Ledgers {
         aboutNodes();
         countWhat();
         countOfBytes();
+        all512Calls();
         end();
     }
 
@@ -150,11 +151,6 @@ public final class FaceBoundsTest extends Ledgers {
                 due("storage(" + c + ") with " + n, storage(ledger, c), pair(num(c), num(40 + c)));
             }
         }
-    }
-
-    private static String find(PactLedger ledger, int c, int[] key) {
-        put(ledger, key);
-        return answer(() -> ledger.find(c));
     }
 
     // Promise 7: "there is no such contract, or it has no BIG .. (the output stays with each)"
@@ -359,5 +355,20 @@ public final class FaceBoundsTest extends Ledgers {
             due("call", call(echo, 0, many(n, text("abc")), 1, 1), "0");
             due("bytes of the output", echo.count(2), 2 + 5 * n);
         }
+    }
+
+    // "An object is used for at most 512 calls after it has been made"
+
+    private static void all512Calls() {
+        // Adds the parameter to the storage; three of put() and a deploy() come first.
+        int[] code = code(steps(31, 38, 32, 37, 60, 31, 36));
+        int[] script = script(NAT, NAT, NAT, code, num(0));
+        due("length of the script", script.length, 24);
+        PactLedger ledger = deployed(script);
+        for (int used = 4; used < 510; used += 2) {
+            due("call " + (used + 2), call(ledger, 0, ONE, 120, 150), "7");
+        }
+        due("call 511", ledger.about(0, 2), 253);
+        due("call 512", ledger.about(0, 3), 7 * 253);
     }
 }

@@ -1,5 +1,5 @@
 /** Promise 7: find. */
-public final class FindTest {
+public final class FindTest extends Ledgers {
     private static final int[] N = Ledgers.NAT;
     private static final int[] T = Ledgers.TEXT;
 
@@ -9,11 +9,6 @@ public final class FindTest {
         refused();
         afterUpdates();
         Ledgers.end();
-    }
-
-    private static String find(PactLedger ledger, int c, int[] key) {
-        Ledgers.put(ledger, key);
-        return Ledgers.answer(() -> ledger.find(c));
     }
 
     private static void found(PactLedger ledger, int[] key, int[] want) {

@@ -297,6 +297,11 @@ class Ledgers {
         return answer(() -> ledger.call(c, bits, cost));
     }
 
+    static String find(PactLedger ledger, int c, int[] key) {
+        put(ledger, key);
+        return answer(() -> ledger.find(c));
+    }
+
     static int[] output(PactLedger ledger) {
         int[] all = new int[ledger.count(2)];
         for (int i = 0; i < all.length; i++) {

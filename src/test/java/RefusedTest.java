@@ -50,11 +50,6 @@ public final class RefusedTest extends Ledgers {
         return script(INT, INT, INT, code, num(10));
     }
 
-    private static String find(PactLedger ledger, int c, int[] key) {
-        put(ledger, key);
-        return answer(() -> ledger.find(c));
-    }
-
     /** That a call threw, and that all but the output and wrong() is as it was prepared. */
     private static void as(String what, PactLedger ledger, String got, String how, int[] output, int wrong) {
         due(what, got, how);
